@@ -7,6 +7,17 @@ final class Check {
         part = name;
     }
 
+    /** One test, of one sentence of the document. No call may throw, so a throw is wrong too. */
+    void sentence(String section, String words, Runnable test) {
+        part(section + ", \"" + words + "\"");
+        try {
+            test.run();
+        } catch (RuntimeException thrown) {
+            wrong++;
+            System.out.println(part + ": threw " + thrown);
+        }
+    }
+
     void due(String call, long got, long want) {
         if (got != want) {
             wrong++;
@@ -22,6 +33,17 @@ final class Check {
         if (!got.equals(want)) {
             wrong++;
             System.out.println(part + ": " + what + " is\n  " + got + "\ndue is\n  " + want);
+        }
+    }
+
+    /** Takes 81 calls: these cells are blocked and no other one is. */
+    void dueBlocked(CostmapNavigator x, int... cells) {
+        boolean[] want = new boolean[81];
+        for (int c : cells) {
+            want[c] = true;
+        }
+        for (int c = 0; c < 81; c++) {
+            due("blocked(" + c + ")", x.blocked(c), want[c]);
         }
     }
 

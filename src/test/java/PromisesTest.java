@@ -1,10 +1,10 @@
 /** Each promise by itself, with answers worked out by hand from the document. */
 public final class PromisesTest {
-    private static final int BAD_ARG = -1;
-    private static final int NONE = -4;
-    private static final int LEAST = Integer.MIN_VALUE;
-    private static final int GREATEST = Integer.MAX_VALUE;
-    private static final int[] NO_CELLS = {-1, 81, 82, -81, LEAST, GREATEST};
+    private static final int BAD_ARG = Edges.BAD_ARG;
+    private static final int NONE = Edges.NONE;
+    private static final int LEAST = Edges.LEAST;
+    private static final int GREATEST = Edges.GREATEST;
+    private static final int[] NO_CELLS = Edges.NO_CELLS;
 
     private static final Check check = new Check();
 
@@ -88,34 +88,34 @@ public final class PromisesTest {
         check.part("promise 3, blocking");
         CostmapNavigator x = new CostmapNavigator();
         check.due("wall(20, 0, 3)", x.wall(20, 0, 3), 3);
-        dueBlocked(x, 20, 21, 22);
+        check.dueBlocked(x, 20, 21, 22);
         check.due("wall(19, 0, 5)", x.wall(19, 0, 5), 2);
-        dueBlocked(x, 19, 20, 21, 22, 23);
+        check.dueBlocked(x, 19, 20, 21, 22, 23);
         check.due("wall(19, 0, 5) again", x.wall(19, 0, 5), 0);
         check.due("wall(11, 1, 3)", x.wall(11, 1, 3), 2);
-        dueBlocked(x, 11, 19, 20, 21, 22, 23, 29);
+        check.dueBlocked(x, 11, 19, 20, 21, 22, 23, 29);
         check.due("wall(50, 0, 0)", x.wall(50, 0, 0), 0);
         check.due("wall(20, 1, 0)", x.wall(20, 1, 0), 0);
-        dueBlocked(x, 11, 19, 20, 21, 22, 23, 29);
+        check.dueBlocked(x, 11, 19, 20, 21, 22, 23, 29);
 
         x = new CostmapNavigator();
         check.due("wall(7, 0, 9), two in the row", x.wall(7, 0, 9), 2);
-        dueBlocked(x, 7, 8);
+        check.dueBlocked(x, 7, 8);
         check.due("wall(64, 1, 9), two in the column", x.wall(64, 1, 9), 2);
-        dueBlocked(x, 7, 8, 64, 73);
+        check.dueBlocked(x, 7, 8, 64, 73);
         check.due("wall(80, 0, 9)", x.wall(80, 0, 9), 1);
         check.due("wall(80, 1, 9)", x.wall(80, 1, 9), 0);
-        dueBlocked(x, 7, 8, 64, 73, 80);
+        check.dueBlocked(x, 7, 8, 64, 73, 80);
 
         x = new CostmapNavigator();
         check.due("wall(36, 0, 9)", x.wall(36, 0, 9), 9);
-        dueBlocked(x, 36, 37, 38, 39, 40, 41, 42, 43, 44);
-        x = new CostmapNavigator();
+        check.dueBlocked(x, 36, 37, 38, 39, 40, 41, 42, 43, 44);
         for (int down : new int[] {1, -1, 2, LEAST, GREATEST}) {
+            x = new CostmapNavigator();
             check.due("wall(4, " + down + ", 9)", x.wall(4, down, 9), 9);
-            dueBlocked(x, 4, 13, 22, 31, 40, 49, 58, 67, 76);
+            check.dueBlocked(x, 4, 13, 22, 31, 40, 49, 58, 67, 76);
             check.due("wall(4, " + down + ", -9)", x.wall(4, down, -9), 9);
-            dueBlocked(x);
+            check.dueBlocked(x);
         }
     }
 
@@ -125,17 +125,17 @@ public final class PromisesTest {
         x.wall(0, 0, 9);
         x.wall(9, 0, 9);
         check.due("wall(2, 0, -3)", x.wall(2, 0, -3), 3);
-        dueBlocked(x, 0, 1, 5, 6, 7, 8, 9, 10, 11, 12, 13, 14, 15, 16, 17);
+        check.dueBlocked(x, 0, 1, 5, 6, 7, 8, 9, 10, 11, 12, 13, 14, 15, 16, 17);
         check.due("wall(1, 0, -5)", x.wall(1, 0, -5), 2);
-        dueBlocked(x, 0, 6, 7, 8, 9, 10, 11, 12, 13, 14, 15, 16, 17);
+        check.dueBlocked(x, 0, 6, 7, 8, 9, 10, 11, 12, 13, 14, 15, 16, 17);
         check.due("wall(7, 0, -9), none in the next row", x.wall(7, 0, -9), 2);
-        dueBlocked(x, 0, 6, 9, 10, 11, 12, 13, 14, 15, 16, 17);
+        check.dueBlocked(x, 0, 6, 9, 10, 11, 12, 13, 14, 15, 16, 17);
         check.due("wall(0, 1, -9)", x.wall(0, 1, -9), 2);
-        dueBlocked(x, 6, 10, 11, 12, 13, 14, 15, 16, 17);
+        check.dueBlocked(x, 6, 10, 11, 12, 13, 14, 15, 16, 17);
         check.due("wall(6, 1, -1)", x.wall(6, 1, -1), 1);
         check.due("wall(6, 1, -1) again", x.wall(6, 1, -1), 0);
         check.due("wall(15, 1, 0) frees none", x.wall(15, 1, 0), 0);
-        dueBlocked(x, 10, 11, 12, 13, 14, 15, 16, 17);
+        check.dueBlocked(x, 10, 11, 12, 13, 14, 15, 16, 17);
     }
 
     private static void wallRefuses() {
@@ -217,10 +217,7 @@ public final class PromisesTest {
 
     private static void blocked() {
         check.part("promise 7");
-        CostmapNavigator x = new CostmapNavigator();
-        for (int row = 0; row < 9; row++) {
-            x.wall(9 * row, 0, 9);
-        }
+        CostmapNavigator x = Grids.full();
         x.block(17, 0);
         for (int c = 0; c < 81; c++) {
             check.due("blocked(" + c + ")", x.blocked(c), c != 17);
@@ -300,11 +297,11 @@ public final class PromisesTest {
         x.place(18);
         x.goal(0);
         check.due("distance() the other way", x.distance(), 8);
-        x = detour();
+        x = Grids.detour();
         check.due("distance() by the detour", x.distance(), 10);
         x.tune(1, 0);
         check.due("distance() straight on", x.distance(), 8);
-        x = snake();
+        x = Grids.snake();
         check.due("distance() of the long way", x.distance(), 192);
         x.tune(3, 9);
         check.due("distance() of the long way at the greatest cost", x.distance(), 48 * 28);
@@ -374,7 +371,7 @@ public final class PromisesTest {
 
     private static void nextFollowsPrice() {
         check.part("promise 12, prices");
-        CostmapNavigator x = detour();
+        CostmapNavigator x = Grids.detour();
         check.due("next(), the detour begins to the right", x.next(), 1);
         x.place(11);
         check.due("next(), below and away from the obstacle", x.next(), 2);
@@ -428,7 +425,7 @@ public final class PromisesTest {
         x.goal(60);
         check.due("drive(3)", x.drive(3), 3);
         check.due("where()", x.where(), 61);
-        x = detour();
+        x = Grids.detour();
         check.due("drive(3) on the detour", x.drive(3), 3);
         check.due("where()", x.where(), 20);
         check.due("drive(40)", x.drive(40), 7);
@@ -438,13 +435,13 @@ public final class PromisesTest {
     private static void driveOnLongWay() {
         check.part("promise 13, at most 40");
         for (int n : new int[] {40, 41, 48, 100, GREATEST}) {
-            CostmapNavigator x = snake();
+            CostmapNavigator x = Grids.snake();
             check.due("drive(" + n + ")", x.drive(n), 40);
             check.due("where()", x.where(), 72);
             check.due("drive(" + n + ") again", x.drive(n), 8);
             check.due("where()", x.where(), 80);
         }
-        CostmapNavigator x = snake();
+        CostmapNavigator x = Grids.snake();
         check.due("drive(39)", x.drive(39), 39);
         check.due("where()", x.where(), 63);
     }
@@ -494,9 +491,9 @@ public final class PromisesTest {
         x.block(80, 0);
         x.wall(36, 0, 9);
         check.due("moves(), a wall between", x.moves(), NONE);
-        x = detour();
+        x = Grids.detour();
         check.due("moves() by the detour", x.moves(), 10);
-        x = snake();
+        x = Grids.snake();
         check.due("moves(), more than drive does", x.moves(), 48);
     }
 
@@ -538,7 +535,7 @@ public final class PromisesTest {
         check.due("reached(), the goal alone", x.reached(), 1);
         x.block(0, 1);
         check.due("reached(), goal blocked", x.reached(), 0);
-        check.due("reached() in the long way", snake().reached(), 49);
+        check.due("reached() in the long way", Grids.snake().reached(), 49);
     }
 
     private static void farthest() {
@@ -553,7 +550,7 @@ public final class PromisesTest {
         check.due("farthest(), the goal alone", x.farthest(), 0);
         x.block(0, 1);
         check.due("farthest(), goal blocked", x.farthest(), NONE);
-        check.due("farthest() in the long way", snake().farthest(), 192);
+        check.due("farthest() in the long way", Grids.snake().farthest(), 192);
         x = new CostmapNavigator();
         x.wall(1, 1, 9);
         x.goal(0);
@@ -565,10 +562,7 @@ public final class PromisesTest {
 
     private static void badArgumentBeforeNone() {
         check.part("promise 18");
-        CostmapNavigator x = new CostmapNavigator();
-        for (int row = 0; row < 9; row++) {
-            x.wall(9 * row, 0, 9);
-        }
+        CostmapNavigator x = Grids.full();
         check.due("cost(80), all blocked", x.cost(80), NONE);
         check.due("distanceFrom(80), all blocked", x.distanceFrom(80), NONE);
         for (int c : NO_CELLS) {
@@ -594,41 +588,11 @@ public final class PromisesTest {
         check.due("call 512, where()", x.where(), 80);
     }
 
-    /** An obstacle on the upper edge makes the straight way along row 1 cost 35, one by row 2 cost 10. */
-    private static CostmapNavigator detour() {
-        CostmapNavigator x = new CostmapNavigator();
-        x.tune(1, 9);
-        x.block(4, 1);
-        x.place(9);
-        x.goal(17);
-        return x;
-    }
-
-    /** Walls that leave one way of 48 moves from cell 0 to cell 80, every cell at clearance 1. */
-    private static CostmapNavigator snake() {
-        CostmapNavigator x = new CostmapNavigator();
-        x.wall(9, 0, 8);
-        x.wall(28, 0, 8);
-        x.wall(45, 0, 8);
-        x.wall(64, 0, 8);
-        return x;
-    }
-
     private static void dueNext(int from, int to, int want) {
         CostmapNavigator x = new CostmapNavigator();
         x.place(from);
         x.goal(to);
         check.due("next() from " + from + " to " + to, x.next(), want);
-    }
-
-    private static void dueBlocked(CostmapNavigator x, int... cells) {
-        boolean[] want = new boolean[81];
-        for (int c : cells) {
-            want[c] = true;
-        }
-        for (int c = 0; c < 81; c++) {
-            check.due("blocked(" + c + ")", x.blocked(c), want[c]);
-        }
     }
 
     /** All that the object answers without being changed. */
