@@ -155,8 +155,10 @@ final class Model {
 
     int drive(int n) {
         int done = 0;
-        while (done < n && done < 40 && next(robot) != NONE) {
-            robot = after(robot, next(robot));
+        int direction = next(robot);
+        while (done < n && done < 40 && direction != NONE) {
+            robot = after(robot, direction);
+            direction = next(robot);
             done++;
         }
         return done;

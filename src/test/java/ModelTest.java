@@ -6,19 +6,31 @@ import java.util.function.LongSupplier;
  * every run of this test does the same.
  */
 public final class ModelTest {
-    private static final int RUNS = 60;
+    private static final int MIXED_RUNS = 60;
+    private static final int MAZE_RUNS = 12;
     private static final int CALLS = 512;
     private static final int[] ODD_NUMBERS = {Integer.MIN_VALUE, -82, -10, -1, 10, 81, 90, Integer.MAX_VALUE};
+    private static final int[] CORNERS = {0, 8, 72, 80};
 
     private static final Check check = new Check();
     private static long state = 20261115L;
 
+    private static long longestDrive = 0;
+    private static long mostMoves = 0;
+
     public static void main(String[] args) {
-        for (int run = 0; run < RUNS && check.wrong() == 0; run++) {
-            check.part("run " + run);
+        for (int run = 0; run < MIXED_RUNS && check.wrong() == 0; run++) {
+            check.part("mixed run " + run);
             // Runs differ in how crowded the grid gets.
             mixedRun(new CostmapNavigator(), new Model(), run % 5);
         }
+        for (int run = 0; run < MAZE_RUNS && check.wrong() == 0; run++) {
+            check.part("maze run " + run);
+            mazeRun(new CostmapNavigator(), new Model(), run % 2);
+        }
+        // Else the runs would have stopped short of what they are made for.
+        check.due("the longest drive of all runs", longestDrive, 40);
+        check.due("a way of more than 40 moves among all runs", mostMoves > 40, true);
         check.end();
     }
 
@@ -29,6 +41,46 @@ public final class ModelTest {
             } else {
                 askingCall(x, m);
             }
+        }
+    }
+
+    /** Mixed calls in a maze that is seldom changed, since ways by chance alone stay far below 40 moves. */
+    private static void mazeRun(CostmapNavigator x, Model m, int down) {
+        int walls = 4;
+        for (int wall = 0; wall < walls; wall++) {
+            layWall(x, m, down, wall);
+        }
+        for (int call = walls; call < CALLS && check.wrong() == 0; call++) {
+            int kind = number(60);
+            if (kind == 0) {
+                changingCall(x, m, 2);
+            } else if (kind < 20) {
+                travellingCall(x, m);
+            } else {
+                askingCall(x, m);
+            }
+        }
+    }
+
+    /** Blocks every second row or column but for its first or last cell, by turns. */
+    private static void layWall(CostmapNavigator x, Model m, int down, int wall) {
+        int line = 2 * wall + 1;
+        int first = wall % 2;
+        int c = down == 0 ? 9 * line + first : 9 * first + line;
+        same("wall(" + c + ", " + down + ", 8)", () -> x.wall(c, down, 8), () -> m.wall(c, down, 8));
+    }
+
+    /** The robot or the goal often goes to a corner, so that the ways between them are long. */
+    private static void travellingCall(CostmapNavigator x, Model m) {
+        int c = number(2) == 0 ? CORNERS[number(CORNERS.length)] : cell();
+        int r = number(4);
+        int g = number(10);
+        int steps = 1 + number(60);
+        switch (number(6)) {
+            case 0 -> same("tune(" + r + ", " + g + ")", () -> x.tune(r, g), () -> m.tune(r, g));
+            case 1, 2 -> same("place(" + c + ")", () -> x.place(c), () -> m.place(c));
+            case 3 -> same("goal(" + c + ")", () -> x.goal(c), () -> m.goal(c));
+            default -> driven(x, m, steps);
         }
     }
 
@@ -47,7 +99,7 @@ public final class ModelTest {
             case 4 -> same("tune(" + r + ", " + g + ")", () -> x.tune(r, g), () -> m.tune(r, g));
             case 5 -> same("place(" + c + ")", () -> x.place(c), () -> m.place(c));
             case 6 -> same("goal(" + c + ")", () -> x.goal(c), () -> m.goal(c));
-            default -> same("drive(" + steps + ")", () -> x.drive(steps), () -> m.drive(steps));
+            default -> driven(x, m, steps);
         }
     }
 
@@ -61,14 +113,21 @@ public final class ModelTest {
             case 4 -> same("distanceFrom(" + c + ")", () -> x.distanceFrom(c), () -> m.distanceFrom(c));
             case 5 -> same("next()", x::next, () -> m.next(m.robot));
             case 6 -> same("where()", x::where, () -> m.robot);
-            case 7 -> same("moves()", x::moves, m::moves);
+            case 7 -> mostMoves = Math.max(mostMoves, same("moves()", x::moves, m::moves));
             case 8 -> same("reached()", x::reached, m::reached);
             default -> same("farthest()", x::farthest, m::farthest);
         }
     }
 
-    private static void same(String call, LongSupplier got, LongSupplier want) {
-        check.due(call, got.getAsLong(), want.getAsLong());
+    private static void driven(CostmapNavigator x, Model m, int steps) {
+        long done = same("drive(" + steps + ")", () -> x.drive(steps), () -> m.drive(steps));
+        longestDrive = Math.max(longestDrive, done);
+    }
+
+    private static long same(String call, LongSupplier got, LongSupplier want) {
+        long answer = want.getAsLong();
+        check.due(call, got.getAsLong(), answer);
+        return answer;
     }
 
     private static int cell() {
