@@ -284,6 +284,11 @@ public final class CostmapNavigator {
         return costs[to] + distances[to];
     }
 
+    /**
+     * The least direction that begins a cheapest way from c, NONE if there is
+     * none. Its move stays in the grid, since priceThrough answers NONE, which is
+     * no distance, for one that would leave it.
+     */
     private int directionFrom(int c) {
         if (c == goalCell || distances[c] == NONE) {
             return NONE;
